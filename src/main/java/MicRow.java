@@ -25,6 +25,8 @@ public final class MicRow {
     private static final int LAST_SAMPLE = 300;
     private static final int LAST_TURNED = 200;
     private static final int EVERY_SOURCE = -1;
+    // Squares of 48 CLEAN ones together stay below 10 to the 13th.
+    private static final long NO_LIMIT = 1000000000000000L;
 
     // Numbers of a MIC, in the order in which mic() tells them.
     private static final int PLACE = 0;
@@ -1406,7 +1408,7 @@ public final class MicRow {
          * no weight of more POWER than it can be chosen.
          */
         private int bestWeight(int j, int was) {
-            long limit = (squares(j, was, Long.MAX_VALUE) / length + 1) * length;
+            long limit = (squares(j, was, NO_LIMIT) / length + 1) * length;
             int found = was;
             for (int i = 0; i < WEIGHT_CHOICES; i++) {
                 int weight = bySize(i);
