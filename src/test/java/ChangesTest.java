@@ -241,8 +241,6 @@ public final class ChangesTest {
     }
 
     private static void promise41Wrong() {
-        MicRow x = Check.with("00,01", "+810088");
-        Check.mark(x);
         Object[][] all = {
             {"x", -1}, {"0", -1}, {"g", -2}, {"gx", -2}, {"g0", -3}, {"g005", -5}, {"g00x0", -4}, {"g0050x", -6}, {"w", -2},
             {"w0", -3}, {"w0x", -3}, {"d0", -3}, {"o0", -3}, {"dx", -2}, {"ox", -2}, {"c", -2}, {"c123", -5}, {"c12x4", -4},
@@ -250,10 +248,13 @@ public final class ChangesTest {
             {"a0+", -4}, {"a0+9", -4}, {"a00", -3}, {"a0 8", -3}, {"a+8", -2}, {"g0050 w17", -6}, {"g0050w1", -8},
             {"g0050,w17", -6}, {"e05", -1}, {"L", -1}, {"lll9", -4}};
         for (Object[] one : all) {
+            MicRow x = Check.with("00,01", "+810088");
+            Check.mark(x);
             Check.say(x, (String) one[0]);
             Check.refused("41: day of " + one[0], x, (Integer) one[1], MicRow::day);
             Check.eq("41: THE TEXT is emptied", x.count(8), 0);
         }
+        MicRow x = Check.with("00,01", "+810088");
         Check.eq("41: 80 signs", Check.day(x, "l".repeat(80)), 80);
         Check.row("41: 80 signs", x, 0, 3);
     }

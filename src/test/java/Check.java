@@ -8,8 +8,18 @@ final class Check {
 
     private static int right = 0;
     private static int wrong = 0;
+    private static String about = "";
 
     private Check() {
+    }
+
+    /** What the next checks are about stands ahead of what they print. */
+    static void about(String words) {
+        about = words;
+    }
+
+    static int made() {
+        return right + wrong;
     }
 
     static void eq(String what, long got, long want) {
@@ -17,7 +27,7 @@ final class Check {
             right++;
         } else {
             wrong++;
-            System.out.println(what + " is " + got + ", due is " + want);
+            System.out.println(about + what + " is " + got + ", due is " + want);
         }
     }
 
@@ -55,12 +65,15 @@ final class Check {
         eq("the mark could be made", x.count(3), clip);
     }
 
-    /** That a call answers so and leaves the ROW and all that can be counted as they were. */
+    /** That a call answers so and leaves the ROW and what can be undone; Twins looks at all there is. */
     static void refused(String what, MicRow x, long want, java.util.function.ToLongFunction<MicRow> call) {
-        long[] seen = seen(x);
+        long undone = x.count(6);
+        long numbers = x.count(7);
+        long last = numbers > 0 ? x.row((int) numbers - 1) : 0;
         eq(what, call.applyAsLong(x), want);
-        long[] then = seen(x);
-        yes(what + ": all stays", java.util.Arrays.equals(seen, then));
+        eq(what + ": what can be undone", x.count(6), undone);
+        eq(what + ": numbers of the ROW", x.count(7), numbers);
+        eq(what + ": the last of them", numbers > 0 ? x.row((int) numbers - 1) : 0, last);
     }
 
     /** All that questions without a ROW tell of the state, but THE TEXT. */

@@ -251,6 +251,10 @@ final class PlainModel {
         for (long n : numbers) row.add(n);
     }
 
+    List<Long> told() {
+        return row;
+    }
+
     private boolean mic(int m) {
         return m >= 0 && m < now.mics.size();
     }

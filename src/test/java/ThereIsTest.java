@@ -53,7 +53,7 @@ public final class ThereIsTest {
 
     private static void promise9Heard() {
         MicRow x = Check.with("03", PART);
-        for (int t = -300; t <= 300; t++) {
+        for (int t = -300; t <= 300; t += t % 2 == 0 ? 1 : 5) {
             Check.eq("9: by parts of a sample, at " + t, x.sample(0, t), t % 2 == 0 ? 56 : 8);
         }
         x.sets(0, 0, 33);
