@@ -342,6 +342,11 @@ final class EdgesOfChanges {
             Check.eq("one between goes", x.goes(1), 2);
             Check.eq("the first stays", x.source(0, 0), 3);
             Check.eq("the last", x.source(1, 0), 1);
+            MicRow y = Check.with("", "+81000000000000;+71111111111111;+61222222222222;+51333333333337");
+            Check.eq("of four", y.goes(0), 3);
+            Check.eq("the last", y.source(2, 0), 5);
+            Check.eq("its twelfth step", y.source(2, 14), 3);
+            Check.none("no fourth one", () -> y.source(3, 0));
         });
         Edges.edge(40, "NONE: none such.", () -> {
             for (int s : new int[] {-1, 2, 4, LEAST, MOST}) {

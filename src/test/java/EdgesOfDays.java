@@ -345,7 +345,19 @@ final class EdgesOfDays {
             Check.eq("what a sheet did behind it goes with it", y.mic(0, 1) * 1000 + y.mic(1, 1), 150100);
             Check.eq("THE TEXT stays", y.count(8), 2);
             Check.eq("the ROW stays", y.count(7), 3);
+            MicRow z = full();
+            List<Long> ahead = Twins.scene(z);
+            Check.sources(z, "+0188");
+            Check.sources(z, "-01000000000000;-01000000000000;-01000000000000;-01000000000000");
+            Check.mics(z, "00,01,02,03,04,05");
+            Check.eq("back", z.undo() + z.undo() + z.undo(), 4 + 3 + 2);
+            Check.yes("six MICS, four SOURCES of twelve steps", ahead.equals(Twins.scene(z)));
         });
+    }
+
+    /** As much as there can be. */
+    static MicRow full() {
+        return Check.with("10,11,12,13,14,40", "+81123456781238;+71123456781237;+61123456781236;+51123456781235");
     }
 
     private static void undone(String what, Consumer<MicRow> call) {

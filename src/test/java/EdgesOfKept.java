@@ -64,6 +64,13 @@ final class EdgesOfKept {
             Check.mics(y, "00");
             Check.yes("again(1)", y.again(1));
             Check.eq("a new one", y.count(0), 0);
+            MicRow z = EdgesOfDays.full();
+            List<Long> full = Twins.scene(z);
+            z.keep(1);
+            Check.sources(z, "-01000000000000;-01000000000000;-01000000000000;-01000000000000");
+            Check.mics(z, "00,01,02,03,04,05");
+            Check.yes("again(1)", z.again(1));
+            Check.yes("six MICS, four SOURCES of twelve steps", full.equals(Twins.scene(z)));
         });
         Edges.edge(45, "Refused: nothing kept.", () -> {
             for (int i : new int[] {0, 1, -1, 2, LEAST, MOST}) {

@@ -149,6 +149,18 @@ final class EdgesOfSpan {
             Check.sources(x, "");
             Check.eq("nothing is heard", x.loudest(0), 8);
         });
+        Edges.edge(17, "The b", () -> {
+            MicRow x = Check.with("01,05,09", "-32465");
+            x.sets(0, 0, 22);
+            x.sets(1, 0, 27);
+            x.holds(2, 4);
+            x.loudest(0);
+            Check.row("to 9 it would be 73", x, 65);
+            MicRow y = Check.with("01,05,09", "+33500;+01301");
+            y.holds(2, 4);
+            y.loudest(0);
+            Check.row("to -9 it would be 8037", y, 6826);
+        });
         Edges.edge(17, "the ROW: POWER.", () -> {
             MicRow x = Check.with(TWO, FOURS);
             x.loudest(0);
@@ -194,6 +206,12 @@ final class EdgesOfSpan {
             Check.eq("to 8 alone SAMPLE 0 is not heard", y.pattern(), 16);
             Check.eq("to 8", y.row(16), 0);
             Check.eq("to 7: 4 by 4", y.row(15), 1);
+            MicRow z = Check.with("01,04,06", "-73406");
+            z.sets(0, 0, 25);
+            z.sets(1, 0, 2);
+            z.holds(2, 4);
+            Check.eq("5; to 9 it would be less", z.pattern(), 13);
+            Check.eq("6 is not 0", z.row(13), 6);
         });
         Edges.edge(18, "-2: no MIC is LIVE.", () -> {
             Twins.stays("none LIVE", Twins::noneLive, -2, MicRow::pattern);
@@ -212,6 +230,12 @@ final class EdgesOfSpan {
             x.sets(0, 4, 1);
             x.sets(1, 4, 1);
             Check.eq("OUT ones too", x.agree(0, 1, -6), 16);
+            MicRow y = Check.with("00,01,02,03,04,40", "+810088");
+            Check.eq("the last two: 36 SAMPLES", y.agree(4, 5, 0), 16);
+            y.moves(5, 38);
+            Check.eq("the last two: 34 SAMPLES", y.agree(5, 4, 0), 0);
+            Check.eq("the last one turned", y.turned(5, 8, 2), 32);
+            Check.eq("the last one as it is: w(-36)", y.turned(5, 0, 2), -32);
         });
         Edges.edge(19, "the ROW: LONG.", () -> {
             MicRow x = Check.with(TWO, FOURS);
@@ -268,6 +292,9 @@ final class EdgesOfSpan {
             Check.sources(x, "");
             Check.eq("all", x.doubtful(), 17);
             Check.eq("-8 alone", Check.with("00,04", "-81880080008808").doubtful(), 1);
+            MicRow y = Check.with(TWO, "+0188");
+            y.sets(1, 3, 1);
+            Check.eq("never the same sign: all, not more", y.doubtful(), 17);
         });
         Edges.edge(21, "the ROW: of each, the least first, 8 more than it.", () -> {
             MicRow x = Check.with(TWO, FOURS);
@@ -381,6 +408,13 @@ final class EdgesOfSpan {
             x.holds(2, 11);
             x.holds(1, 1);
             Check.eq("over the SPAN the other one is not heard", x.strongest(0), 0);
+            MicRow y = Check.with("00", "+0184");
+            y.sets(0, 1, 1);
+            y.holds(2, 4);
+            // GUST is -64 at 0: without SOURCES it would be more, but none is no SOURCE
+            Check.eq("GUST at 0", y.sample(0, 0), -64 + 32);
+            Check.eq("the only one", y.strongest(0), 0);
+            Check.eq("as it is", y.row(0), y.row(1));
         });
         Edges.edge(23, "(all else as it is;", () -> {
             MicRow x = Check.with("00,01", "+0108;+0308");

@@ -1,4 +1,5 @@
 import java.util.List;
+import java.util.function.ToLongFunction;
 
 /** The document's first term: what there is, how numbers are cut, which of equal ones is taken. */
 final class EdgesOfTerms {
@@ -257,6 +258,7 @@ final class EdgesOfTerms {
             x.sets(0, 0, 1);
             Check.eq("GAIN 1", x.sample(0, 0), 0);
         });
+        edge("HEARD of all SOURCES", EdgesOfTerms::allSourcesAreHeard);
         edge("held to -CLIP .. CLIP.", () -> {
             MicRow x = Check.with("00", "+0180");
             int[][] due = {{33, 32}, {32, 32}, {31, 31}, {1, 1}};
@@ -271,6 +273,45 @@ final class EdgesOfTerms {
             x.sets(0, 0, 400);
             Check.eq("GAIN 400", x.sample(0, 1), -20);
         });
+    }
+
+    /** The first SOURCE is silent, so each call must hear the others as if it were not there. */
+    private static void allSourcesAreHeard() {
+        List<ToLongFunction<MicRow>> calls = List.of(
+            x -> x.sample(1, 5), x -> x.turned(1, 3, 5), x -> x.beam(3, 5), x -> x.blocked(3, 0, 5), x -> x.clean(3, 5),
+            x -> x.level(1), x -> x.beams(3), x -> x.weights(3), x -> x.loudest(0), x -> x.loudest(1), MicRow::pattern,
+            x -> x.agree(0, 1, 3), MicRow::from, MicRow::doubtful, x -> x.tracks(5), x -> x.faults(3), x -> x.clipped(1),
+            x -> x.without(0, 3), x -> x.worst(3), x -> x.best(2, 3), x -> x.nulled(3, 6), x -> x.behind(0, 1),
+            x -> x.later(9), x -> x.settles(x.from() - 8), MicRow::learns, x -> x.sorts(9), x -> x.years(5, 4),
+            x -> Check.day(x, "ls09"));
+        MicRow silent = Check.with("00,03,07", "+0144");
+        for (int i = 0; i < calls.size(); i++) {
+            MicRow x = Check.with("00,03,07", "+62075134");
+            MicRow y = Check.with("00,03,07", "+0144;+62075134");
+            MicRow z = Check.with("00,03,07", "+0144;+0144;+0144;+62075134");
+            for (MicRow one : List.of(x, y, z)) {
+                one.sets(1, 0, 60);
+                one.holds(0, 50);
+            }
+            long due = calls.get(i).applyAsLong(x);
+            Check.eq("call " + i + " hears the second", calls.get(i).applyAsLong(y), due);
+            Check.eq("call " + i + " hears the fourth", calls.get(i).applyAsLong(z), due);
+            Check.row("call " + i + ", the second", y, told(x));
+            Check.row("call " + i + ", the fourth", z, told(x));
+            for (int m = 0; m < 3; m++) {
+                Check.eq("EQUAL behind call " + i, y.mic(m, 3), x.mic(m, 3));
+            }
+            Check.eq("LIVE ones behind call " + i, y.count(2), x.count(2));
+        }
+        Check.eq("a silent one", silent.level(0), 0);
+    }
+
+    private static long[] told(MicRow x) {
+        long[] all = new long[x.count(7)];
+        for (int i = 0; i < all.length; i++) {
+            all[i] = x.row(i);
+        }
+        return all;
     }
 
     private static MicRow windy() {
@@ -369,6 +410,13 @@ final class EdgesOfTerms {
             MicRow x = Check.with("00", PULSE);
             x.holds(2, 13);
             Check.eq("64 by 13", x.level(0), 4);
+            MicRow y = loud();
+            y.level(0);
+            y.beams(0);
+            y.holds(2, 4);
+            Check.eq("four of SAMPLES that were 48", y.level(0), 4608);
+            Check.eq("four of BEAMS that were 48", y.beams(0), 9216);
+            Check.row("four of CLEAN", y, 9216L * 9216L, 9216, 9216L * 9216L);
         });
         edge("POWER: their squares together by LONG.", () -> {
             MicRow x = loud();
@@ -468,7 +516,23 @@ final class EdgesOfTerms {
             // BEAM is 1 at 0 and 12 and else 0: squares together are 2 of 16
             z.weights(0);
             Check.row("POWER is 0 by 0 already", z, 0);
+            MicRow later = three("00,01,02", "+61223", 18, 56, 100);
+            // BEAM -6, -7, -8, -6: the first is -16 at first; then the second is -5, by which -15 is as good
+            later.weights(0);
+            Check.row("in later rounds, too", later, -15, -5);
+            MicRow cut = three("00,03,06", "+71704", 49, 8, 100);
+            cut.weights(0);
+            Check.row("POWERS that are cut are compared", cut, 5, -6);
         });
+    }
+
+    private static MicRow three(String mics, String sources, int... gains) {
+        MicRow x = Check.with(mics, sources);
+        for (int m = 0; m < gains.length; m++) {
+            x.sets(m, 0, gains[m]);
+        }
+        x.holds(2, 4);
+        return x;
     }
 
     private static void signs() {
@@ -504,6 +568,16 @@ final class EdgesOfTerms {
             Check.sources(x, "+810484;-810484");
             x.sets(0, 3, 1);
             Check.eq("all equal", x.from(), 8);
+            MicRow y = Check.with("00,08", "+210088");
+            for (int many : new int[] {48, 4, 47, 5}) {
+                y.holds(2, many);
+                Check.eq("of " + many, y.from(), 10);
+                Check.row("of " + many, y, many, 1);
+            }
+            MicRow z = Check.with("00,08", "+0188");
+            z.sets(1, 3, 1);
+            Check.eq("never the same sign", z.from(), 8);
+            Check.row("never the same sign", z, 0, 1);
         });
     }
 

@@ -161,6 +161,9 @@ final class EdgesOfWouldBe {
             Check.eq("the other two take each other off", x.masks(0), 2);
             Check.eq("SOURCES stay", x.count(1), 3);
             Check.eq("of one", Check.with("00", "+0308").masks(0), 0);
+            Check.sources(x, "+0108;+0180");
+            Check.eq("with both it is 0, but for one not", x.masks(0), 0);
+            Check.row("with both it is 0, but for one not", x, 1024);
         });
         Edges.edge(29, "(of equal ones the first): it;", () -> {
             MicRow x = Check.with("00,01", "+0108;+0308;+0308");
@@ -272,6 +275,23 @@ final class EdgesOfWouldBe {
             Check.row("all of eleven: 0 is ahead of the SPAN", y, 11);
             Check.eq("0 and 0 have the same sign", y.behind(1, 0), 9);
             Check.row("all of eleven", y, 11);
+            MicRow z = Check.with("00,01", "");
+            z.sets(0, 1, 1);
+            z.sets(1, 1, 1);
+            z.holds(1, 20);
+            z.holds(2, 10);
+            int found = z.behind(0, 1) - 8;
+            long told = z.row(0);
+            long most = 0;
+            for (int s = -8; s <= 8; s++) {
+                long often = 0;
+                for (int t = 20; t < 30; t++) {
+                    often += Integer.signum(z.sample(0, t + s)) == Integer.signum(z.sample(1, t)) ? 1 : 0;
+                }
+                most = Math.max(most, often);
+                Check.yes("by " + s, s == found ? often == told : often <= told);
+            }
+            Check.eq("by WIND, from 20 on", told, most);
         });
         Edges.edge(31, "(of equal ones the one of the least size, then the one above 0): 8 more than it;", () -> {
             MicRow x = Check.with("00,02", FOURS);
@@ -337,6 +357,9 @@ final class EdgesOfWouldBe {
             MicRow y = Check.with("00,08,16", "+210088");
             y.later(77);
             Check.row("three pairs", y, 48);
+            y.sets(1, 4, 1);
+            Check.yes("two LIVE ones can", y.later(77) >= 0);
+            Check.row("one pair", y, 16);
         });
         Edges.edge(32, "-2: less than two MICS are LIVE;", () -> {
             Twins.stays("one", Twins::oneLive, -2, x -> x.later(0));
